@@ -100,9 +100,17 @@ public final class BoundaryChangesTest {
     }
 
     private static void newBesideAnother() {
-        TreeSlack full = Graphs.mixed(12);
-        Twins.same("a new object beside a full one", new TreeSlack(), Graphs.mixed(0));
-        Twins.same("a full one beside new objects", full, Graphs.mixed(12));
+        TreeSlack full = Graphs.threeByFour(1);
+        full.turn(11, false);
+        TreeSlack path = Graphs.path();
+        TreeSlack none = new TreeSlack();
+        Checks.due("a new one: drop()", none.drop(), BAD_EDGE);
+        Checks.due("a full one beside it: edge(0, 1, 1)", full.edge(0, 1, 1), FULL);
+        Checks.due("a full one beside it: turn(11, true)", full.turn(11, true), 0);
+        Checks.due("a full one beside it: trees()", full.trees(), 432);
+        Checks.due("a full one beside it: cost()", full.cost(), 6);
+        Checks.due("a path beside it: trees()", path.trees(), 1);
+        Checks.due("a path beside it: cost()", path.cost(), 21);
     }
 
     private static void edgeIsOn() {

@@ -2,6 +2,7 @@
 public final class BoundaryLimitsTest {
     private static final int NO_TREE = TreeSlack.NO_TREE;
     private static final int BAD_EDGE = TreeSlack.BAD_EDGE;
+    private static final int QUESTIONS = 10;
 
     public static void main(String[] args) {
         Checks.sentence("seven vertices, 0 to 6", BoundaryLimitsTest::sevenVertices);
@@ -117,11 +118,13 @@ public final class BoundaryLimitsTest {
     }
 
     private static void callsOfQuestions() {
-        TreeSlack x = Graphs.ring();
-        for (int call = 7; call < 511; call++) {
-            Checks.due("cheapest, call " + call, x.cheapest(), 1);
+        int[] due = {19, 1, 7, 1, 1, 19, 24, 5, 20, 5};
+        for (int question = 0; question < QUESTIONS; question++) {
+            TreeSlack x = Graphs.ring();
+            for (int call = 8; call <= 512; call++) {
+                Checks.due("question " + question + ", call " + call, ask(x, question, 0), due[question]);
+            }
         }
-        Checks.due("the 512th call", x.slack(0), 5);
     }
 
     private static void fiveAreNoTree() {
@@ -230,28 +233,46 @@ public final class BoundaryLimitsTest {
     }
 
     private static void questionsChangeNothing(int edges) {
-        for (int question = 0; question < 10; question++) {
+        for (int question = 0; question < QUESTIONS; question++) {
             TreeSlack x = Graphs.mixedAfterDrops(edges);
-            for (int edge = -1; edge <= 12; edge++) {
-                ask(x, question, edge);
-            }
+            askOfAll(x, question);
             Twins.same("question " + question, x, Graphs.mixed(edges));
+            for (int other = 0; other < QUESTIONS; other++) {
+                leavesAnswers(edges, question, other);
+            }
         }
     }
 
-    private static void ask(TreeSlack x, int question, int edge) {
-        switch (question) {
+    // The other question is the first that the twin is asked, so that no change of its own can hide one.
+    private static void leavesAnswers(int edges, int question, int other) {
+        TreeSlack x = Graphs.mixedAfterDrops(edges);
+        TreeSlack twin = Graphs.mixed(edges);
+        askOfAll(x, question);
+        for (int edge = 0; edge < 12; edge++) {
+            String name = "question " + question + ", then question " + other + " of " + edge;
+            Checks.due(name, ask(x, other, edge), ask(twin, other, edge));
+        }
+    }
+
+    private static void askOfAll(TreeSlack x, int question) {
+        for (int edge = -1; edge <= 12; edge++) {
+            ask(x, question, edge);
+        }
+    }
+
+    private static int ask(TreeSlack x, int question, int edge) {
+        return switch (question) {
             case 0 -> x.cost();
             case 1 -> x.cheapest();
             case 2 -> x.trees();
-            case 3 -> x.inSome(edge);
-            case 4 -> x.inAll(edge);
+            case 3 -> x.inSome(edge) ? 1 : 0;
+            case 4 -> x.inAll(edge) ? 1 : 0;
             case 5 -> x.costWith(edge);
             case 6 -> x.costWithout(edge);
             case 7 -> x.slack(edge);
             case 8 -> x.nextCost();
             default -> x.bottleneck();
-        }
+        };
     }
 
     private static void noSuchEdge(String when, TreeSlack x, int edge) {

@@ -52,6 +52,7 @@ public final class LanguageTest {
 
     private final Map<String, Set<String>> calls = new HashMap<>();
     private final Set<String> constants = new TreeSet<>();
+    private int fields = 0;
 
     public static void main(String[] args) throws IOException {
         JavaCompiler compiler = ToolProvider.getSystemJavaCompiler();
@@ -74,6 +75,8 @@ public final class LanguageTest {
         rule(3, "nothing imported", unit.getImports().isEmpty());
         rule(1, "one class in the file", unit.getTypeDecls().size() == 1);
         ClassTree program = (ClassTree) unit.getTypeDecls().get(0);
+        boolean alone = program.getExtendsClause() == null && program.getImplementsClause().isEmpty();
+        rule(3, "no other class extended or implemented", alone);
         for (Tree member : program.getMembers()) {
             if (member instanceof VariableTree field) {
                 checkField(field);
@@ -83,6 +86,7 @@ public final class LanguageTest {
                 rule(5, "no initialiser and no nested class: " + member, false);
             }
         }
+        rule(10, "at most forty fields beside the constants", fields <= 40);
         checkCalls();
         program.accept(new Statements(), null);
     }
@@ -94,6 +98,8 @@ public final class LanguageTest {
             rule(5, "a constant: " + field, modifiers.contains(Modifier.FINAL));
             rule(5, "of int or long: " + field, type.equals("int") || type.equals("long"));
             constants.add(field.getName().toString());
+        } else {
+            fields++;
         }
         if (type.endsWith("[]")) {
             rule(4, "never assigned again: " + field, modifiers.contains(Modifier.FINAL));

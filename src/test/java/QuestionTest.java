@@ -10,7 +10,7 @@ public final class QuestionTest {
         noTree();
         enoughEdgesButApart();
         offEdges();
-        slackAboveTwenty();
+        slackUpToTwenty();
         slackOfTies();
         nextCostSkipsTies();
         bottleneckBelowDearestEdge();
@@ -122,11 +122,11 @@ public final class QuestionTest {
         ofEdge("edges 0 and 4 off", x, 4, new int[] {0, 0, TreeSlack.NO_TREE, TreeSlack.NO_TREE, 0});
     }
 
-    private static void slackAboveTwenty() {
+    private static void slackUpToTwenty() {
         TreeSlack x = Graphs.ring();
         x.weigh(5, 20);
         x.weigh(0, 18);
-        ofEdge("slack past 20", x, 0, new int[] {1, 1, 36, 38, 2});
+        ofEdge("slack up to 20", x, 0, new int[] {1, 1, 36, 38, 2});
         x.weigh(0, 20);
         ofEdge("slack at 20", x, 0, new int[] {1, 0, 38, 38, 0});
         x.turn(5, false);
