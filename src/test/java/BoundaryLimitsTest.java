@@ -15,6 +15,7 @@ public final class BoundaryLimitsTest {
         Checks.sentence("512 calls: turn", BoundaryLimitsTest::callsOfTurn);
         Checks.sentence("512 calls: refused ones", BoundaryLimitsTest::callsRefused);
         Checks.sentence("512 calls: questions", BoundaryLimitsTest::callsOfQuestions);
+        Checks.sentence("later calls: free, yet none throws", BoundaryLimitsTest::callsPastTheLast);
         Checks.sentence("a tree: six edges, not five", BoundaryLimitsTest::fiveAreNoTree);
         Checks.sentence("a tree: six edges, not seven", BoundaryLimitsTest::sevenAreNoTree);
         Checks.sentence("a tree: edges that are on", BoundaryLimitsTest::offIsInNoTree);
@@ -125,6 +126,23 @@ public final class BoundaryLimitsTest {
                 Checks.due("question " + question + ", call " + call, ask(x, question, 0), due[question]);
             }
         }
+    }
+
+    // What they answer is free, so none is looked at; that they end is rule 7 of LANGUAGE.md.
+    private static void callsPastTheLast() {
+        TreeSlack x = Graphs.threeByFour(1);
+        int cameBack = 0;
+        for (int round = 0; round < 600; round++) {
+            x.edge(round % 7, (round + 1) % 7, round % 21);
+            x.weigh(round % 13, round % 21);
+            x.turn(round % 13, round % 3 != 0);
+            ask(x, round % QUESTIONS, round % 13);
+            if (round % 5 == 0) {
+                x.drop();
+            }
+            cameBack++;
+        }
+        Checks.due("rounds of calls that came back", cameBack, 600);
     }
 
     private static void fiveAreNoTree() {

@@ -101,6 +101,9 @@ public final class LanguageTest {
         } else {
             fields++;
         }
+        Set<String> called = new TreeSet<>();
+        field.accept(new Called(), called);
+        rule(5, "a value that no call makes: " + field, called.isEmpty());
         if (type.endsWith("[]")) {
             rule(4, "never assigned again: " + field, modifiers.contains(Modifier.FINAL));
             rule(4, "made at the start: " + field, field.getInitializer() instanceof NewArrayTree);
